@@ -778,6 +778,11 @@ public final class ModelTest {
         return calls;
     }
 
+    /** Fills the tree up to so many boxes and empties it again, so that the root comes and goes often. */
+    private static int swing(int boxes, int most, int putsOfTen) {
+        return boxes >= most ? 0 : boxes <= Math.min(3, most - 3) ? 10 : putsOfTen >= 5 ? 10 : 0;
+    }
+
     /** Everything there is to see of the tree. */
     private static int lookAtAll(int run, BoxCourt x, Model m) {
         int calls = 0;
@@ -810,9 +815,12 @@ public final class ModelTest {
                 if (pick(20) == 0) {
                     putsOfTen = run % 3 == 0 ? 5 + pick(6) : 1 + pick(9);
                 }
+                if (run % 7 == 3) {
+                    putsOfTen = swing(m.now.boxes().size(), 5 + run % 4 * 8, putsOfTen);
+                }
                 change(run, x, m, putsOfTen);
                 calls++;
-                for (int i = pick(4); i > 0; i--) {
+                for (int i = pick(run % 7 == 3 ? 2 : 4); i > 0; i--) {
                     look(run, x, m);
                     calls++;
                 }

@@ -153,6 +153,22 @@ public final class PromisesTest {
         due("put after", x.put(4, 1, 2, 3, 4), 1);
     }
 
+    /** A root that comes and goes 150 times must leave nothing behind. */
+    private static void rootComesAndGoes() {
+        BoxCourt x = new BoxCourt();
+        for (int box = 0; box < 4; box++) {
+            x.put(box, 7, 7, 7, 7);
+        }
+        int free = 4;
+        for (int round = 0; round < 150; round++) {
+            due("round " + round + ": put", x.put(free, 7, 7, 7, 7), 2);
+            free = Integer.numberOfTrailingZeros(x.nodeOf(0, 0, 5));
+            due("round " + round + ": take", x.take(free), 1);
+        }
+        due("rounds: boxes", x.count(0), 4);
+        due("rounds: orphans", x.count(7), 150);
+    }
+
     private static void boxes() {
         BoxCourt x = courted();
         x.put(7, 95, 91, 97, 94);
@@ -470,6 +486,7 @@ public final class PromisesTest {
         puts();
         wrongPuts();
         takes();
+        rootComesAndGoes();
         boxes();
         nodes();
         sumsOfOverlaps();
