@@ -644,7 +644,7 @@ public final class BoxCourt {
         private void lookFrom(int top) {
             count = 0;
             note(top);
-            for (int i = 0; i < count; i++) {
+            for (int i = 0; i < NODES && i < count; i++) {
                 int node = Rows.at(seen, i);
                 int size = tree.levelOf(node) > 0 ? tree.sizeOf(node) : 0;
                 for (int place = 0; place < size; place++) {
