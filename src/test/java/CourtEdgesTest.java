@@ -62,10 +62,16 @@ public final class CourtEdgesTest {
     }
 
     private static void straightLine(String call, String want, int x2, int y2, int x1, int y1) {
-        BoxCourt x = Checks.made(new int[][] {{0, 0, 0, 60, 60}, {1, x1, y1, x1, y1}, {2, x2, y2, x2, y2},
-            {3, 90, 90, 90, 90}, {4, 99, 99, 99, 99}, {5, 60, 60, 60, 60}, {6, 45, 45, 99, 99}, {3},
-            {7, 30, 30, 30, 30}});
-        Checks.due(call, Checks.tree(x), want);
+        for (int up = 0; up < 10; up += 9) {
+            BoxCourt x = Checks.made(new int[][] {{0, 0, up, 60, 60 + up}, {1, x1, y1 + up, x1, y1 + up},
+                {2, x2, y2 + up, x2, y2 + up}, {3, 90, 90, 90, 90}, {4, 99, 99, 99, 99}, {5, 60, 60 + up, 60, 60 + up},
+                {6, 45, 45 + up, 99, 99}, {3}, {7, 30, 30 + up, 30, 30 + up}});
+            Checks.due(call + ", " + up + " up", Checks.tree(x), want);
+            BoxCourt turned = Checks.made(new int[][] {{0, up, 0, 60 + up, 60}, {1, y1 + up, x1, y1 + up, x1},
+                {2, y2 + up, x2, y2 + up, x2}, {3, 90, 90, 90, 90}, {4, 99, 99, 99, 99}, {5, 60 + up, 60, 60 + up, 60},
+                {6, 45 + up, 45, 99, 99}, {3}, {7, 30 + up, 30, 30 + up, 30}});
+            Checks.due(call + ", x and y turned, " + up + " right", Checks.tree(turned), want);
+        }
     }
 
     /** Box 5 at 60 is the farthest one; when it is gone, the middle is not at 30 any more. */
@@ -145,6 +151,15 @@ public final class CourtEdgesTest {
         Checks.due("1 in a node", Checks.tree(x),
                 "[[[14 15 16 19][11 12 13][20 21 22]][[8 9 10][5 6 7][2 3 4]]]");
         Checks.due("1 in a node: orphans", x.count(7), 3);
+
+        x = threeLevels(0);
+        Checks.span(x, 13, 31, 31);
+        x.take(5);
+        Checks.due("2 in a leaf, from 31 to 50", Checks.frame(x, 1, 1), "31 0 70 1");
+        x.take(6);
+        Checks.due("the node above is less then, so the orphan at 31 comes to the other one", Checks.tree(x),
+                "[[[0 1][10 11 12 13]][[7 8 9][2 3 4]]]");
+        Checks.due("the node above", Checks.frame(x, 1, 1), "60 0 70 1");
 
         x = Checks.made(FOUR_LEVELS);
         Checks.due("four levels", Checks.tree(x), "[[[[10 0][13 14]][[11 12][18 19]]]"

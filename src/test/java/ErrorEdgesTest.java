@@ -240,6 +240,63 @@ public final class ErrorEdgesTest {
         Checks.due("undo, call 512", z.undo(), 3);
     }
 
+    /** All arguments out of these: an argument that is out of range is the error, whatever the others are. */
+    private static void anyArguments() {
+        Checks.sentence("INVALID_ARGUMENT if an argument is out of range");
+        int[] any = {Checks.MIN, -1, 0, 30, 31, 99, 100, Checks.MAX};
+        int[] a = new int[5];
+        BoxCourt x = busy();
+        for (int all = 0; all < 8 * 8 * 8 * 8 * 8; all++) {
+            for (int i = 0; i < a.length; i++) {
+                a[i] = any[all >> 3 * i & 7];
+            }
+            if (all % 128 == 0) {
+                x = busy();
+            }
+            boolean isWindow = isPoint(a[0]) && isPoint(a[1]) && isPoint(a[2]) && isPoint(a[3]) && a[0] <= a[2]
+                    && a[1] <= a[3];
+            String call = a[0] + ", " + a[1] + ", " + a[2] + ", " + a[3] + ", " + a[4];
+            invalid("window(" + call + ")", x.window(a[0], a[1], a[2], a[3], a[4]), isWindow && a[4] == 0);
+            invalid("would(" + call + ")", x.would(a[0], a[1], a[2], a[3], a[4]), isWindow && a[4] == 0);
+            invalid("put(" + a[4] + ", " + call + ")", x.put(a[4], a[0], a[1], a[2], a[3]),
+                    isWindow && a[4] >= 0 && a[4] <= 30);
+        }
+    }
+
+    private static void fewerArguments() {
+        int[] any = {Checks.MIN, -1, 0, 30, 31, 99, 100, Checks.MAX};
+        for (int a : any) {
+            BoxCourt x = busy();
+            invalid("take(" + a + ")", x.take(a), a >= 0 && a <= 30);
+            invalid("overlaps(" + a + ")", x.overlaps(a), a >= 0);
+            invalid("count(" + a + ")", x.count(a), a == 0);
+            invalid("type(" + a + ")", x.type(a), a >= 32 && a <= 126);
+            invalid("fault(" + a + ")", x.fault(a), a == 0);
+            for (int b : any) {
+                invalid("boxOf(" + a + ", " + b + ")", x.boxOf(a, b), a >= 0 && a <= 30 && b == 0);
+                invalid("overlap(" + a + ", " + b + ")", x.overlap(a, b), a >= 0 && a <= 30 && b >= 0 && b <= 30);
+                invalid("court(" + a + ", " + b + ")", x.court(a, b), a >= 0 && b == 0);
+                invalid("wouldTake(" + a + ", " + b + ")", x.wouldTake(a, b), a >= 0 && a <= 30 && b == 0);
+                BoxCourt y = busy();
+                for (int c : any) {
+                    invalid("nodeOf(" + a + ", " + b + ", " + c + ")", y.nodeOf(a, b, c), a >= 0 && b >= 0 && c == 0);
+                    for (int d : any) {
+                        invalid("nearest(" + a + ", " + b + ", " + c + ", " + d + ")", y.nearest(a, b, c, d),
+                                isPoint(a) && isPoint(b) && c >= 0 && d == 0);
+                    }
+                }
+            }
+        }
+    }
+
+    private static boolean isPoint(int coordinate) {
+        return coordinate >= 0 && coordinate <= 99;
+    }
+
+    private static void invalid(String call, int answer, boolean isInRange) {
+        Checks.due(call, answer == Checks.INVALID ? 0 : 1, isInRange ? 1 : 0);
+    }
+
     private static void constants() {
         Checks.sentence("The constants");
         Checks.due("INVALID_ARGUMENT", BoxCourt.INVALID_ARGUMENT, Checks.INVALID);
@@ -255,6 +312,8 @@ public final class ErrorEdgesTest {
         looks();
         history();
         lastCall();
+        anyArguments();
+        fewerArguments();
         constants();
         Checks.end("ErrorEdgesTest");
     }

@@ -324,6 +324,13 @@ public final class LookEdgesTest {
         Checks.due("above them", x.window(0, 2, 99, 99, 1), 0);
         Checks.due("right of them, a border", x.window(70, 0, 99, 99, 1), 2);
         Checks.due("right of them", x.window(71, 0, 99, 99, 1), 0);
+        Checks.sentence("0: the set of boxes that have a point in common with it");
+        Checks.due("a border of box 1", x.window(10, 1, 59, 9, 0), 1 << 1);
+        Checks.due("a border of box 2", x.window(11, 1, 60, 9, 0), 1 << 2);
+        Checks.due("borders of both", x.window(10, 1, 60, 9, 0), 1 << 1 | 1 << 2);
+        Checks.due("between boxes of a leaf", x.window(6, 0, 9, 1, 0), 0);
+        Checks.due("all", x.window(0, 0, 99, 99, 0), 31);
+        Checks.due("all of 31", Checks.alike(31).window(7, 7, 7, 7, 0), Checks.MAX);
         Checks.sentence("INVALID_ARGUMENT if an argument is out of range");
         Checks.due("what -1", x.window(0, 0, 9, 9, -1), Checks.INVALID);
         Checks.due("what 2", x.window(0, 0, 9, 9, 2), Checks.INVALID);
@@ -415,6 +422,12 @@ public final class LookEdgesTest {
         Checks.due("the second leaf", courted.would(65, 0, 65, 1, 0), 1);
         Checks.due("the first leaf", courted.would(9, 0, 9, 1, 0), 0);
         Checks.sentence("4: the sum of the overlaps of each two leaves then");
+        BoxCourt flat = Checks.made(new int[][] {{0, 0, 0, 20, 9}, {1, 0, 0, 20, 9}, {2, 0, 70, 20, 79}, {3, 0, 70, 20, 79},
+            {4, 0, 1, 20, 9}});
+        Checks.due("leaves", Checks.tree(flat), "[[0 1 4][2 3]]");
+        Checks.due("by 1040 or by 200", wouldAll(flat, 0, 60, 20, 61), "1 0 0 2 0");
+        Checks.due("by 620 each", wouldAll(flat, 0, 39, 9, 40), "0 0 0 2 0");
+        Checks.due("by 620 or by 600", wouldAll(flat, 0, 40, 9, 40), "1 0 0 2 0");
         BoxCourt x = Checks.twoLeaves();
         Checks.due("0 to 10 and 10 to 70", x.would(10, 0, 62, 1, 4), 0);
         Checks.due("0 to 10 and 9 to 70", x.would(9, 0, 62, 1, 4), 1);
@@ -480,6 +493,10 @@ public final class LookEdgesTest {
         Checks.due("8 boxes", Checks.counts(Checks.alike(8)), "8 2 4 3 1 1 2 0 4 0 0");
         Checks.due("14 boxes", Checks.counts(Checks.alike(14)), "14 3 8 5 1 3 5 0 4 0 0");
         Checks.due("31 boxes", Checks.counts(Checks.alike(31)), "31 3 14 10 0 9 11 0 4 0 0");
+        int[] alone = {14, 3, 8, 5, 1, 3, 5, 0, 4, 0, 0};
+        for (int what = 0; what < alone.length; what++) {
+            Checks.due("14 boxes, count(" + what + ") alone", Checks.alike(14).count(what), alone[what]);
+        }
         Checks.sentence("INVALID_ARGUMENT if what is out of range.");
         BoxCourt x = new BoxCourt();
         Checks.due("count(-1)", x.count(-1), Checks.INVALID);

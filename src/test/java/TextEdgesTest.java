@@ -123,6 +123,22 @@ public final class TextEdgesTest {
         fault("+0,0,0,0,0;+1,0,0,0,0;+2,0,0,0,0;+3,0,0,0,0;+4,0,0,0,0;+5,0,", 55, 1, 5);
     }
 
+    /** What was in the text before it was emptied is not in it any more. */
+    private static void writtenAnew() {
+        Checks.sentence("Empties the text.");
+        String[][] pairs = {{"-7;", "-7"}, {"-07;", "-0"}, {"+8,1,1,2,2;", "+8,1,1,2"}, {"+8,1,1,2,2;", "+8,1,"},
+            {"+8,1,1,2,22;", "+8,1,1,2,2"}};
+        for (String[] pair : pairs) {
+            BoxCourt x = written(pair[0]);
+            Checks.due(pair[0], x.fault(1), Checks.NOT_FOUND);
+            Checks.due("length it had", x.clearText(), pair[0].length());
+            Checks.write(x, pair[1]);
+            Checks.due(pair[1] + " after " + pair[0], x.fault(1), 1);
+            Checks.due(pair[1] + " after " + pair[0] + ", cause", x.fault(2), pair[1].length());
+            Checks.due(pair[1] + " after " + pair[0] + ", play", x.play(), Checks.NOT_POSSIBLE);
+        }
+    }
+
     private static void wrongNumbers() {
         Checks.sentence("2 if a number of a box is above 30, or a low one is greater than its high one");
         noFault("+30,1,1,1,1;", 1, 2);
@@ -134,6 +150,10 @@ public final class TextEdgesTest {
         noFault("+8,5,5,5,5;", 1, 2);
         fault("+8,6,5,5,5;", 0, 2, 1);
         fault("+8,5,6,5,5;", 0, 2, 2);
+        fault("+8,5,6,9,5;", 0, 2, 2);
+        fault("+8,6,5,5,9;", 0, 2, 1);
+        noFault("+8,1,9,2,9;", 1, 2);
+        noFault("+8,9,1,9,2;", 1, 2);
         fault("+8,99,0,98,0;", 0, 2, 1);
         fault("+8,0,99,0,98;", 0, 2, 2);
         noFault("+8,9,1,10,1;", 1, 2);
@@ -197,6 +217,13 @@ public final class TextEdgesTest {
         Checks.due("reason 2, 2", y.fault(2), 0);
         Checks.write(y, "-7;");
         Checks.due("no fault after a fault, 2", y.fault(2), Checks.NOT_FOUND);
+        Checks.write(y, "x");
+        Checks.due("a fault", y.fault(1), 1);
+        y.clearText();
+        for (int what = 0; what < 3; what++) {
+            Checks.due("empty after a fault, " + what, y.fault(what), Checks.NOT_FOUND);
+        }
+        Checks.due("empty after a fault: play", y.play(), 0);
         Checks.sentence("INVALID_ARGUMENT if what is out of range");
         for (int out : new int[] {-1, 3, Checks.MIN, Checks.MAX}) {
             Checks.due("fault(" + out + ")", y.fault(out), Checks.INVALID);
@@ -221,6 +248,17 @@ public final class TextEdgesTest {
         Checks.due("length", x.count(9), 14);
         Checks.due("again", x.play(), 2);
         Checks.due("again, what it did", x.boxOf(1, 0), 2);
+        Checks.sentence("(the box is put)");
+        Checks.write(x, "+30,11,22,63,84;");
+        Checks.due("play", x.play(), 1);
+        Checks.due("low x", x.boxOf(30, 0), 11);
+        Checks.due("low y", x.boxOf(30, 1), 22);
+        Checks.due("high x", x.boxOf(30, 2), 63);
+        Checks.due("high y", x.boxOf(30, 3), 84);
+        Checks.sentence("(it is taken out)");
+        Checks.write(x, "-30;");
+        Checks.due("play", x.play(), 1);
+        Checks.due("box", x.boxOf(30, 0), Checks.NOT_FOUND);
         Checks.sentence("NOT_POSSIBLE if it has a fault.");
         Checks.write(x, "-1;+1,3,3,3,3;-");
         Checks.due("the last order is none", x.play(), Checks.NOT_POSSIBLE);
@@ -262,6 +300,7 @@ public final class TextEdgesTest {
         characters();
         form();
         breaksOff();
+        writtenAnew();
         wrongNumbers();
         thereOrNot();
         faultCalls();

@@ -184,6 +184,8 @@ public final class TreeEdgesTest {
         splits("low x", "[[4 3][2 1 0]]", point(4, 0), point(3, 0), point(2, 0), point(1, 0), point(0, 0));
         splits("low x rather than high x", "[[2 1 0][3 4]]", span(1, 1), span(0, 9), span(0, 8), span(60, 60),
                 span(70, 70));
+        splits("low x by 1, high x by 69", "[[2 1 0][3 4]]", span(1, 1), span(0, 70), span(0, 69), span(90, 90),
+                span(99, 99));
         splits("high x", "[[2 1 0][4 3]]", span(0, 5), span(0, 4), span(0, 3), span(60, 70), span(60, 69));
         splits("high x, one as another", "[[2 0 1][3 4]]", span(0, 5), span(0, 5), span(0, 4), span(60, 70),
                 span(60, 70));
@@ -193,6 +195,8 @@ public final class TreeEdgesTest {
         splits("low y", "[[1 3][4 2 0]]", rise(4, 4), rise(0, 0), rise(3, 3), rise(1, 1), rise(2, 2));
         splits("low y rather than high y", "[[4 2 1][3 0]]", rise(70, 70), rise(1, 1), rise(0, 9), rise(60, 60),
                 rise(0, 8));
+        splits("low y by 1, high y by 69", "[[4 2 1][3 0]]", rise(99, 99), rise(1, 1), rise(0, 70), rise(90, 90),
+                rise(0, 69));
         splits("high y", "[[4 2 1][3 0]]", rise(60, 70), rise(0, 5), rise(0, 4), rise(60, 69), rise(0, 3));
         splits("high y, one as another", "[[4 1 2][0 3]]", rise(60, 70), rise(0, 5), rise(0, 5), rise(60, 70),
                 rise(0, 4));
