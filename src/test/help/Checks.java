@@ -1,3 +1,11 @@
+import java.io.IOException;
+import java.io.UncheckedIOException;
+import java.nio.charset.StandardCharsets;
+import java.nio.file.Files;
+import java.nio.file.Path;
+import java.util.HashSet;
+import java.util.Set;
+
 /** What the tests of boundary cases share. A test tells the sentence first that its calls look at. */
 final class Checks {
     static final int INVALID = -1000001;
@@ -8,15 +16,34 @@ final class Checks {
     static final int MAX = Integer.MAX_VALUE;
     static final int BOXES = 31;
 
+    private static final Path DOCUMENT = Path.of("../shared/DOC.md");
+
+    private static final Set<String> found = new HashSet<>();
+    private static String document = "";
     private static String sentence = "";
     private static int wrong = 0;
 
     private Checks() {
     }
 
-    /** The words of ../shared/DOC.md that the calls after this one look at. */
+    /** The words of ../shared/DOC.md that the calls after this one look at; other words are a fault of the test. */
     static void sentence(String words) {
         sentence = words;
+        if (found.add(words) && Files.isReadable(DOCUMENT) && !document().contains(words)) {
+            tell("../shared/DOC.md", "other words", "these");
+        }
+    }
+
+    /** The document in one line, as its lines may be broken anywhere. */
+    private static String document() {
+        if (document.isEmpty()) {
+            try {
+                document = Files.readString(DOCUMENT, StandardCharsets.UTF_8).replaceAll("\\s+", " ");
+            } catch (IOException e) {
+                throw new UncheckedIOException("the tests are run at the project's root, beside ../shared", e);
+            }
+        }
+        return document;
     }
 
     static void due(String call, int got, int want) {

@@ -169,16 +169,19 @@ public final class ErrorEdgesTest {
     }
 
     private static void history() {
-        Checks.sentence("each change records everything before it but the text, and if there are 5 states then, the oldest "
-                + "one is dropped.");
         for (int changes = 1; changes <= 6; changes++) {
             BoxCourt x = Checks.alike(changes);
             int states = Math.min(4, changes);
+            Checks.sentence("each change records everything before it but the text, and if there are 5 states then, the "
+                    + "oldest one is dropped.");
             Checks.due(changes + " changes: states", x.count(8), states);
             for (int left = states - 1; left >= 0; left--) {
-                Checks.due(changes + " changes: undo", x.undo(), left);
+                Checks.sentence("Restores the latest state of the history, which is removed from it.");
+                int answer = x.undo();
                 Checks.due(changes + " changes: boxes", x.count(0), changes - states + left);
                 Checks.due(changes + " changes: states", x.count(8), left);
+                Checks.sentence("Returns the number of states that are left in the history; NOT_POSSIBLE if it is empty.");
+                Checks.due(changes + " changes: undo", answer, left);
             }
             Checks.due(changes + " changes: undo of none", x.undo(), Checks.NOT_POSSIBLE);
             Checks.due(changes + " changes: boxes left", x.count(0), changes - states);
@@ -200,6 +203,7 @@ public final class ErrorEdgesTest {
     }
 
     private static void everythingButText() {
+        Checks.sentence("each change records everything before it but the text");
         BoxCourt x = Checks.alike(22);
         Checks.write(x, "-1;");
         x.put(22, 7, 7, 7, 7);

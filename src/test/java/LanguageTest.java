@@ -27,6 +27,20 @@ public final class LanguageTest {
         "\\bObject\\b", "\\bequals\\b", "\\bhashCode\\b", "\\btoString\\b", "\\bThread\\b", "\\bstatic\\s*\\{",
         "\\bprotected\\b", "\\bimport (?!java\\.util\\.(Arrays|ArrayList|List|Iterator);)"};
 
+    /** The lines of the document's face as they stand in it, with what the interface says ahead of its calls. */
+    private static final String[] ORDER = {
+        "public final class BoxCourt {", "public static final int INVALID_ARGUMENT = -1000001;",
+        "public static final int NOT_POSSIBLE = -1000002;", "public static final int LIMIT_REACHED = -1000003;",
+        "public static final int NOT_FOUND = -1000004;", "public BoxCourt()", "// ---- putting and taking out",
+        "public int put(int box, int lowX, int lowY, int highX, int highY)", "public int take(int box)",
+        "// ---- what there is", "public int boxOf(int box, int what)", "public int nodeOf(int level, int place, int what)",
+        "public int overlaps(int level)", "public int overlap(int one, int other)", "public int court(int index, int what)",
+        "// ---- looking", "public int window(int lowX, int lowY, int highX, int highY, int what)",
+        "public int nearest(int x, int y, int index, int what)",
+        "public int would(int lowX, int lowY, int highX, int highY, int what)", "public int wouldTake(int box, int what)",
+        "public int count(int what)", "public int undo()", "// ---- texts", "public int type(int character)",
+        "public int clearText()", "public int fault(int what)", "public int play()"};
+
     private static int wrong = 0;
 
     private static void fail(String what) {
@@ -124,8 +138,20 @@ public final class LanguageTest {
                 fail("a sign above 126 at " + i);
             }
         }
+        lookAtOrder(source);
         lookAtLengths(source);
         lookAtMaking(code);
+    }
+
+    private static void lookAtOrder(String source) {
+        int at = 0;
+        for (String line : ORDER) {
+            int next = source.indexOf(line, at);
+            if (next < 0) {
+                fail("not where the document has it: " + line);
+            }
+            at = Math.max(at, next);
+        }
     }
 
     /** A method begins at a line that ends with ") {" and is no statement, and ends at the brace below it. */

@@ -172,7 +172,7 @@ public final class LookEdgesTest {
         Checks.due("last leaf, first place", x.boxOf(2, 4) * 10 + x.boxOf(2, 5), 10);
         Checks.due("last leaf, last place", x.boxOf(4, 4) * 10 + x.boxOf(4, 5), 12);
         x.put(9, 1, 2, 3, 4);
-        Checks.sentence("what: 0: low x; 1: low y; 2: high x; 3: high y");
+        Checks.sentence("`what`: 0: low x; 1: low y; 2: high x; 3: high y");
         for (int what = 0; what < 4; what++) {
             Checks.due("boxOf(9, " + what + ")", x.boxOf(9, what), what + 1);
         }
@@ -194,6 +194,12 @@ public final class LookEdgesTest {
         for (int place = 0; place < sets.length; place++) {
             Checks.due("leaf " + place, x.nodeOf(0, place, 5), sets[place]);
         }
+        Checks.sentence("4: how many things it has; 5: for a leaf the set of its boxes, for another node the place of its "
+                + "first node");
+        Checks.due("things of the first leaf", x.nodeOf(0, 0, 4), 2);
+        Checks.due("things of the last leaf", x.nodeOf(0, 4, 4), 3);
+        Checks.due("things of the second node", x.nodeOf(1, 1, 4), 3);
+        Checks.due("things of the root", x.nodeOf(2, 0, 4), 2);
         Checks.due("first node of the first one", x.nodeOf(1, 0, 5), 0);
         Checks.due("first node of the second one", x.nodeOf(1, 1, 5), 2);
         Checks.due("first node of the root", x.nodeOf(2, 0, 5), 0);
@@ -216,10 +222,10 @@ public final class LookEdgesTest {
         Checks.due("one in it", Checks.frame(y, 0, 0), "1 2 3 4");
         y.take(3);
         Checks.due("nothing in it again", y.nodeOf(0, 0, 2), Checks.NOT_FOUND);
-        Checks.sentence("level: 0 or more");
+        Checks.sentence("`level`: 0 or more");
         Checks.due("level -1", x.nodeOf(-1, 0, 4), Checks.INVALID);
         Checks.due("level MIN", x.nodeOf(Checks.MIN, 0, 4), Checks.INVALID);
-        Checks.sentence("place: 0 or more");
+        Checks.sentence("`place`: 0 or more");
         Checks.due("place -1", x.nodeOf(0, -1, 4), Checks.INVALID);
         Checks.due("place MIN", x.nodeOf(0, Checks.MIN, 4), Checks.INVALID);
         Checks.sentence("INVALID_ARGUMENT if an argument is out of range");

@@ -7,13 +7,32 @@ public final class PromisesTest {
     private static final int MIN = Integer.MIN_VALUE;
     private static final int MAX = Integer.MAX_VALUE;
 
+    private static final int PROMISES = 18;
+    /** One of the four sides is out of range, or a low one is greater than its high one. */
+    private static final int[][] WRONG_SIDES = {{-1, 0, 0, 0}, {0, -1, 0, 0}, {1, 0, 0, 0}, {0, 1, 0, 0}, {0, 0, 100, 0},
+        {0, 0, 0, 100}, {100, 0, 100, 0}, {0, 100, 0, 100}, {-1, 0, -1, 0}, {0, -1, 0, -1}, {MIN, 0, 0, 0},
+        {0, MIN, 0, 0}, {0, 0, MAX, 0}, {0, 0, 0, MAX}};
+
+    private static int promise = 0;
+    private static int calls = 0;
     private static int wrong = 0;
 
     private static void due(String call, int got, int want) {
+        calls++;
         if (got != want) {
             wrong++;
-            System.out.println("PromisesTest: " + call + " answered " + got + ", due is " + want);
+            System.out.println("Promise " + promise + ": " + call + " answered " + got + ", due is " + want);
         }
+    }
+
+    /** The answers after this are those of the promise with this number; none of the promises is left out. */
+    private static void promise(int number) {
+        if (number != promise + 1 || promise > 0 && calls == 0) {
+            wrong++;
+            System.out.println("Promise " + promise + ": no call, or promise " + number + " is not the next one");
+        }
+        promise = number;
+        calls = 0;
     }
 
     private static void write(BoxCourt x, String text) {
@@ -108,15 +127,11 @@ public final class PromisesTest {
 
     private static void wrongPuts() {
         BoxCourt x = new BoxCourt();
-        int[][] bad = {{-1, 0, 0, 0, 0}, {31, 0, 0, 0, 0}, {0, -1, 0, 0, 0}, {0, 0, -1, 0, 0}, {0, 1, 0, 0, 0},
-            {0, 0, 1, 0, 0}, {0, 0, 0, 100, 0}, {0, 0, 0, 0, 100}, {0, 100, 0, 100, 0}, {MAX, 0, 0, 0, 0},
-            {0, MIN, 0, 0, 0}, {0, 0, MIN, 0, 0}, {0, 0, 0, MAX, 0}, {0, 0, 0, 0, MAX}, {MIN, 0, 0, 0, 0}};
-        for (int[] b : bad) {
-            due("wrong put", x.put(b[0], b[1], b[2], b[3], b[4]), INVALID);
-            if (b[0] == 0) {
-                due("wrong window", x.window(b[1], b[2], b[3], b[4], 0), INVALID);
-                due("wrong would", x.would(b[1], b[2], b[3], b[4], 0), INVALID);
-            }
+        for (int box : new int[] {-1, 31, MIN, MAX}) {
+            due("put of " + box, x.put(box, 0, 0, 0, 0), INVALID);
+        }
+        for (int[] s : WRONG_SIDES) {
+            due("put with wrong sides", x.put(0, s[0], s[1], s[2], s[3]), INVALID);
         }
         due("no change", x.count(8), 0);
         due("put the last box", x.put(30, 0, 0, 99, 99), 1);
@@ -182,6 +197,11 @@ public final class PromisesTest {
         due("boxOf what -1", x.boxOf(8, -1), INVALID);
         due("boxOf 31", x.boxOf(31, 0), INVALID);
         due("boxOf -1", x.boxOf(-1, 0), INVALID);
+    }
+
+    private static void overlapsOfTwo() {
+        BoxCourt x = courted();
+        x.put(7, 95, 91, 97, 94);
         due("overlap of itself", x.overlap(7, 7), 6);
         x.put(8, 96, 90, 99, 93);
         x.put(9, 97, 94, 98, 99);
@@ -194,6 +214,8 @@ public final class PromisesTest {
         due("overlap of both away", x.overlap(10, 10), NOT_FOUND);
         due("overlap beyond", x.overlap(10, 31), INVALID);
         due("overlap below", x.overlap(-1, 0), INVALID);
+        due("overlap with below", x.overlap(0, -1), INVALID);
+        due("overlap of beyond", x.overlap(31, 10), INVALID);
     }
 
     private static void nodes() {
@@ -279,6 +301,9 @@ public final class PromisesTest {
         due("between", x.window(3, 0, 3, 9, 0), 0);
         due("between: the root", x.window(3, 0, 3, 9, 1), 1);
         due("beyond", x.window(93, 0, 99, 99, 1), 0);
+        for (int[] s : WRONG_SIDES) {
+            due("window with wrong sides", x.window(s[0], s[1], s[2], s[3], 0), INVALID);
+        }
         due("what 2", x.window(0, 0, 0, 0, 2), INVALID);
         due("what -1", x.window(0, 0, 0, 0, -1), INVALID);
     }
@@ -326,6 +351,9 @@ public final class PromisesTest {
         due("would in the second leaf", x.would(91, 91, 92, 92, 0), 1);
         due("would not be too full", x.would(91, 91, 92, 92, 1), 0);
         due("would changes nothing", x.count(5) * 100 + x.count(8) * 10 + x.count(0), 46);
+        for (int[] s : WRONG_SIDES) {
+            due("would with wrong sides", x.would(s[0], s[1], s[2], s[3], 0), INVALID);
+        }
         due("what 5", x.would(0, 0, 0, 0, 5), INVALID);
         due("what -1", x.would(0, 0, 0, 0, -1), INVALID);
 
@@ -403,10 +431,24 @@ public final class PromisesTest {
         due("sign 61", x.type('0'), LIMIT);
         due("sign 61, wrong", x.type(127), INVALID);
         due("length", x.count(9), 60);
+        due("no change", x.count(8), 0);
+    }
+
+    private static void clearTexts() {
+        BoxCourt x = new BoxCourt();
+        due("clearText at first", x.clearText(), 0);
+        for (int i = 1; i <= 60; i++) {
+            x.type('0');
+        }
         due("clearText", x.clearText(), 60);
+        due("length", x.count(9), 0);
+        due("no fault", x.fault(0), NOT_FOUND);
         due("clearText again", x.clearText(), 0);
         due("type after", x.type('0'), 1);
+        due("clearText of one", x.clearText(), 1);
         due("no change", x.count(8), 0);
+        x.put(3, 1, 1, 1, 1);
+        due("one change", x.clearText() + x.count(8), 1);
     }
 
     private static void fault(String text, int place, int reason, int cause) {
@@ -482,24 +524,48 @@ public final class PromisesTest {
     }
 
     public static void main(String[] args) {
+        promise(1);
         newObject();
+        promise(2);
         puts();
         wrongPuts();
+        promise(3);
         takes();
         rootComesAndGoes();
+        promise(4);
         boxes();
+        promise(5);
         nodes();
+        promise(6);
         sumsOfOverlaps();
+        promise(7);
+        overlapsOfTwo();
+        promise(8);
         courts();
+        promise(9);
         windows();
+        promise(10);
         nearestOnes();
+        promise(11);
         woulds();
+        promise(12);
         wouldTakes();
+        promise(13);
         counts();
+        promise(14);
         undos();
+        promise(15);
         types();
+        promise(16);
+        clearTexts();
+        promise(17);
         faults();
+        promise(18);
         plays();
+        if (promise != PROMISES) {
+            wrong++;
+            System.out.println("PromisesTest: promises are left out");
+        }
         System.out.println(wrong == 0 ? "PromisesTest: all answers are as due" : "PromisesTest: " + wrong + " not as due");
         if (wrong != 0) {
             System.exit(1);

@@ -41,9 +41,11 @@ public final class TextEdgesTest {
         for (int i = 1; i <= 60; i++) {
             Checks.due("type " + i, x.type('+'), i);
         }
-        Checks.sentence("LIMIT_REACHED if it has 60 characters.");
-        Checks.due("type 61", x.type('+'), Checks.LIMIT);
-        Checks.due("type 61 again", x.type('+'), Checks.LIMIT);
+        Checks.sentence("INVALID_ARGUMENT if character is out of range; LIMIT_REACHED if it has 60 characters.");
+        for (int character = 30; character <= 128; character++) {
+            Checks.due("type 61, " + character, x.type(character),
+                    character < 32 || character > 126 ? Checks.INVALID : Checks.LIMIT);
+        }
         Checks.due("count(9)", x.count(9), 60);
         Checks.sentence("Returns the length it had.");
         Checks.due("clearText", x.clearText(), 60);
@@ -54,7 +56,7 @@ public final class TextEdgesTest {
     }
 
     private static void characters() {
-        Checks.sentence("character: 32 to 126");
+        Checks.sentence("`character`: 32 to 126");
         BoxCourt x = new BoxCourt();
         Checks.due("type(32)", x.type(32), 1);
         Checks.due("type(126)", x.type(126), 2);
