@@ -61,6 +61,24 @@ public final class PromisesTest {
         return x;
     }
 
+    private static BoxCourt alike(int boxes) {
+        BoxCourt x = new BoxCourt();
+        for (int box = 0; box < boxes; box++) {
+            x.put(box, 7, 7, 7, 7);
+        }
+        return x;
+    }
+
+    /** Leaves {0, 4, 1} from 0 to 10 and {2, 3} from 60 to 70, all 1 high. */
+    private static BoxCourt band() {
+        BoxCourt x = new BoxCourt();
+        int[] at = {0, 10, 60, 70, 5};
+        for (int box = 0; box < at.length; box++) {
+            x.put(box, at[box], 0, at[box], 1);
+        }
+        return x;
+    }
+
     private static BoxCourt full() {
         BoxCourt x = new BoxCourt();
         for (int box = 0; box < 31; box++) {
@@ -287,6 +305,15 @@ public final class PromisesTest {
         x.play();
         due("the latest order's courts alone", x.count(4), 0);
         due("courts so far", x.count(5), 1);
+
+        BoxCourt y = alike(23);
+        due("first court of two: level", y.court(0, 0), 0);
+        due("first court of two: boxes", y.court(0, 1), 2);
+        due("second court: level", y.court(1, 0), 1);
+        due("second court: boxes of two leaves", y.court(1, 1), 6);
+        due("no third court", y.court(2, 0), NOT_FOUND);
+        y.put(23, 7, 7, 7, 7);
+        due("a put without a court", y.court(0, 0), NOT_FOUND);
     }
 
     private static void windows() {
@@ -301,6 +328,17 @@ public final class PromisesTest {
         due("between", x.window(3, 0, 3, 9, 0), 0);
         due("between: the root", x.window(3, 0, 3, 9, 1), 1);
         due("beyond", x.window(93, 0, 99, 99, 1), 0);
+        BoxCourt y = new BoxCourt();
+        y.put(30, 20, 30, 40, 50);
+        due("left border", y.window(0, 0, 20, 99, 0), 1 << 30);
+        due("left of it", y.window(0, 0, 19, 99, 0), 0);
+        due("right border", y.window(40, 0, 99, 99, 0), 1 << 30);
+        due("right of it", y.window(41, 0, 99, 99, 1), 0);
+        due("low border", y.window(0, 0, 99, 30, 0), 1 << 30);
+        due("below it", y.window(0, 0, 99, 29, 1), 0);
+        due("high border", y.window(0, 50, 99, 99, 0), 1 << 30);
+        due("above it", y.window(0, 51, 99, 99, 0), 0);
+        due("a point in it", y.window(30, 40, 30, 40, 1), 1);
         for (int[] s : WRONG_SIDES) {
             due("window with wrong sides", x.window(s[0], s[1], s[2], s[3], 0), INVALID);
         }
@@ -325,6 +363,15 @@ public final class PromisesTest {
         due("on the border", x.nearest(30, 20, 0, 1), 0);
         due("right of it", x.nearest(33, 15, 0, 1), 9);
         due("off a corner", x.nearest(33, 24, 0, 1), 25);
+        BoxCourt y = new BoxCourt();
+        y.put(30, 2, 0, 2, 0);
+        y.put(9, 1, 0, 1, 0);
+        y.put(0, 2, 0, 2, 0);
+        y.put(8, 3, 0, 3, 0);
+        int[] row = {9, 0, 30, 8};
+        for (int i = 0; i < row.length; i++) {
+            due("nearest " + i + " by distance, then by number", y.nearest(0, 0, i, 0), row[i]);
+        }
         due("too many", x.nearest(1, 0, 8, 2), NOT_FOUND);
         due("far too many", x.nearest(1, 0, MAX, 0), NOT_FOUND);
         due("x 100", x.nearest(100, 0, 99, 0), INVALID);
@@ -357,6 +404,12 @@ public final class PromisesTest {
         due("what 5", x.would(0, 0, 0, 0, 5), INVALID);
         due("what -1", x.would(0, 0, 0, 0, -1), INVALID);
 
+        BoxCourt b = band();
+        due("overlap of leaves then", b.would(9, 0, 62, 1, 4), 1);
+        due("no overlap of leaves then", b.would(10, 0, 62, 1, 4), 0);
+        due("courts at two levels", alike(22).would(7, 7, 7, 7, 2), 2);
+        due("a level more", alike(13).would(7, 7, 7, 7, 3), 3);
+
         BoxCourt f = full();
         due("31 boxes", f.count(0), 31);
         due("would with 31 boxes", f.would(0, 0, 0, 0, 0), NOT_POSSIBLE);
@@ -381,6 +434,16 @@ public final class PromisesTest {
         due("box -1", x.wouldTake(-1, 0), INVALID);
         BoxCourt y = line();
         due("lower root", y.wouldTake(3, 2), 1);
+        BoxCourt b = band();
+        b.put(6, 9, 0, 62, 1);
+        due("overlap of leaves now", b.overlaps(0), 1);
+        due("overlap of leaves without 6", b.wouldTake(6, 3), 0);
+        due("overlap of leaves without 2", b.wouldTake(2, 3), 1);
+        BoxCourt z = alike(23);
+        z.take(17);
+        z.take(18);
+        z.take(0);
+        due("two orphans", z.wouldTake(1, 0), 2);
     }
 
     private static void counts() {
@@ -515,6 +578,15 @@ public final class PromisesTest {
         leaves("undone", x, 1 + 16, 2 + 32 + 64, 4 + 8);
         due("again", x.play(), 3);
         due("and no more", x.play(), NOT_POSSIBLE);
+        BoxCourt z = new BoxCourt();
+        write(z, "+30,11,22,63,84;");
+        due("one order", z.play(), 1);
+        due("low x", z.boxOf(30, 0), 11);
+        due("low y", z.boxOf(30, 1), 22);
+        due("high x", z.boxOf(30, 2), 63);
+        due("high y", z.boxOf(30, 3), 84);
+        write(z, "");
+        due("no text any more", z.play(), 0);
         BoxCourt y = new BoxCourt();
         write(y, "+0,0,0,1,1;+1,1,1,2,2;-0;-1;-1");
         due("not whole", y.play(), NOT_POSSIBLE);
